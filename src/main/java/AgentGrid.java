@@ -13,6 +13,7 @@ public final class AgentGrid {
     // that nobody can enter or leave: so every team is handled as three walkers, and the walkers
     // outside it are in nobody's way.
     private static final int SPOTS = CELLS + WALKERS;
+    private static final int PAIRS_OF_SPOTS = SPOTS * SPOTS;
 
     // A state says on which spot each walker is; walker 0 is its foremost digit, so that of two
     // states the lesser number is the one that comes first in the order of the plans.
@@ -35,7 +36,7 @@ public final class AgentGrid {
     private final int[] goals = new int[WALKERS];
 
     // What follows is scratch room: each call that uses it fills it anew.
-    private final boolean[] canGo = new boolean[SPOTS * SPOTS];
+    private final boolean[] canGo = new boolean[PAIRS_OF_SPOTS];
     private final int[] costs = new int[STATES];
     private int greatestCost = 0;
     private final int[] nextStates = new int[MOST_TURNS];
@@ -275,7 +276,7 @@ public final class AgentGrid {
 
     private int spotIn(int state, int walker) {
         if (walker == 0) {
-            return state / (SPOTS * SPOTS);
+            return state / PAIRS_OF_SPOTS;
         }
         if (walker == 1) {
             return state / SPOTS % SPOTS;
