@@ -16,6 +16,10 @@ public final class AgentGridModel {
     private static final int RUNS = 120;
     private static final int CALLS = 100;
 
+    // To a shift, 32 and the like are 0 to 2, and so are -32 and the like.
+    private static final int[] FAR =
+            {Integer.MIN_VALUE, Integer.MIN_VALUE + 1, -32, -31, 32, 33, 34, 1 << 16, Integer.MAX_VALUE};
+
     private final boolean[] wall = new boolean[12];
     private final int[] ways = new int[12];
     private final int[][] walkers = new int[3][];
@@ -263,8 +267,9 @@ public final class AgentGridModel {
         return (int) ((row >>> 33) % count);
     }
 
-    // Mostly 0 to count - 1, at times a little outside.
+    // Mostly 0 to count - 1, at times a little outside, at times far from it.
     private static int about(int count) {
+        if (pick(50) == 0) return FAR[pick(FAR.length)];
         return pick(25) == 0 ? pick(2) * (count + 1) - 1 : pick(count);
     }
 
